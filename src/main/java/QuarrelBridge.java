@@ -53,7 +53,7 @@ public final class QuarrelBridge {
     private static final int CART_FIELDS = 5;
 
     private final Tape tape = new Tape();
-    private final Reader reader = new Reader();
+    private final Reader reader = new Reader(tape);
     private final Bridge told = new Bridge();
     private final Bridge draft = new Bridge();
     private final Bridge[] images = new Bridge[IMAGES];
@@ -94,7 +94,7 @@ public final class QuarrelBridge {
     }
 
     public int bridge() {
-        reader.readAll(tape, draft);
+        reader.readAll(draft);
         tape.size = 0;
         if (reader.faultKind != 0) {
             return FAULTY;
@@ -503,7 +503,7 @@ public final class QuarrelBridge {
         if (!told.hasDay(day)) {
             return NO_SUCH;
         }
-        treaty.weigh(told, crossing, day);
+        treaty.tryPairs(told, crossing, day);
         return treaty.many;
     }
 
@@ -511,7 +511,7 @@ public final class QuarrelBridge {
         if (!told.hasDay(day)) {
             return NO_SUCH;
         }
-        treaty.weigh(told, crossing, day);
+        treaty.tryPairs(told, crossing, day);
         return treaty.firstPair;
     }
 
@@ -533,7 +533,7 @@ public final class QuarrelBridge {
         }
         Plans table = weighed();
         int all = told.allCarts();
-        boolean even = slots.sumOf(slot, all) == table.cheapCost(all);
+        boolean even = slots.sharesOf(slot, all) == table.cheapCost(all);
         return even && leavingSet(table, slot) == NONE ? 1 : 0;
     }
 
@@ -781,7 +781,7 @@ public final class QuarrelBridge {
     private int leavingSet(Plans table, int slot) {
         for (int set = 0; set <= told.allCarts(); set++) {
             int least = table.cheapCost(set);
-            if (least != NONE && slots.sumOf(slot, set) > least) {
+            if (least != NONE && slots.sharesOf(slot, set) > least) {
                 return set;
             }
         }
@@ -1073,14 +1073,17 @@ public final class QuarrelBridge {
 
         int faultKind;
         int faultPlace = NONE;
-        private Tape tape;
+        private final Tape tape;
         private int token;
         private int start;
         private int stop;
         private int amount;
 
-        void readAll(Tape from, Bridge into) {
-            tape = from;
+        Reader(Tape tape) {
+            this.tape = tape;
+        }
+
+        void readAll(Bridge into) {
             faultKind = 0;
             faultPlace = NONE;
             stop = 0;
@@ -1118,16 +1121,12 @@ public final class QuarrelBridge {
             skipWord("deed");
             deed[DEED_SIDE] = named("by", 0, 1);
             deed[DEED_COSTS] = named("costs", 0, MAX_COST);
-            deed[DEED_GIVES] = given();
-            deed[DEED_GIVES + 1] = given();
-            into.deeds++;
-        }
-
-        private int given() {
-            if (isWord("takes")) {
-                return -named("takes", 0, MAX_GIFT);
+            for (int side = 0; side < 2; side++) {
+                boolean takes = isWord("takes");
+                int gift = named(takes ? "takes" : "gives", 0, MAX_GIFT);
+                deed[DEED_GIVES + side] = takes ? -gift : gift;
             }
-            return named("gives", 0, MAX_GIFT);
+            into.deeds++;
         }
 
         private void readCart(Bridge into) {
@@ -1149,7 +1148,10 @@ public final class QuarrelBridge {
 
         /** The number behind a word; 0 behind a FAULT, when it no longer counts. */
         private int named(String word, int low, int high) {
-            skipWord(word);
+            if (!isWord(word)) {
+                fail(1);
+            }
+            next();
             if (token != NUMBER) {
                 fail(1);
             } else if (amount < low || amount > high) {
@@ -1421,7 +1423,7 @@ public final class QuarrelBridge {
                     note(b, walk, day);
                 }
                 enter(code, walk.keptBits(b), paid[days], least[days]);
-                from = turn(walk);
+                from = turnPlan(walk);
             }
         }
 
@@ -1463,7 +1465,7 @@ public final class QuarrelBridge {
         }
 
         /** To the next PLAN: the first DAY that has another choice. */
-        private int turn(Crossing walk) {
+        private int turnPlan(Crossing walk) {
             for (int day = days - 1; day >= 0; day--) {
                 if (walk.choice[day] + 2 < base) {
                     walk.choice[day]++;
@@ -1614,7 +1616,7 @@ public final class QuarrelBridge {
                 walk.passAll(b);
                 mostPaid = Math.max(mostPaid, b.payOf(walk.keptBits(b)));
                 keepIfSooner(walk, walk.dayOfAll(b, b.allCarts()));
-                turn(walk.order, b.carts);
+                turnOrder(walk.order, b.carts);
             }
         }
 
@@ -1629,7 +1631,7 @@ public final class QuarrelBridge {
         }
 
         /** To the next greater row; the greatest one stays. */
-        private static void turn(int[] order, int size) {
+        private static void turnOrder(int[] order, int size) {
             int at = size - 2;
             while (at >= 0 && order[at] > order[at + 1]) {
                 at--;
@@ -1697,7 +1699,7 @@ public final class QuarrelBridge {
             return from >= 0 && n >= 0 && from <= sizes[slot] - n;
         }
 
-        long sumOf(int slot, int set) {
+        long sharesOf(int slot, int set) {
             long sum = 0;
             for (int i = 0; i < sizes[slot]; i++) {
                 if (holds(set, i)) {
@@ -1798,7 +1800,7 @@ public final class QuarrelBridge {
         int firstPair;
         private final int[][] gains = new int[2][CHOICES * CHOICES];
 
-        void weigh(Bridge b, Crossing walk, int day) {
+        void tryPairs(Bridge b, Crossing walk, int day) {
             for (int one = 0; one <= b.deeds; one++) {
                 for (int other = 0; other <= b.deeds; other++) {
                     if (b.mayChoose(0, one - 1) && b.mayChoose(1, other - 1)) {
