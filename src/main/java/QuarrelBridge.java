@@ -52,8 +52,7 @@ public final class QuarrelBridge {
     private static final int CART_PAYS = 4;
     private static final int CART_FIELDS = 5;
 
-    private final Tape tape = new Tape();
-    private final Reader reader = new Reader(tape);
+    private final Reader reader = new Reader();
     private final Bridge told = new Bridge();
     private final Bridge draft = new Bridge();
     private final Bridge[] images = new Bridge[IMAGES];
@@ -74,28 +73,28 @@ public final class QuarrelBridge {
     // The TAPE and its text (2 to 5).
 
     public int feed(int a, int b, int c, int d, int e) {
-        if (tape.size + 20 > MAX_TAPE) {
+        if (reader.tape.size + 20 > MAX_TAPE) {
             return NONE;
         }
-        tape.add(a);
-        tape.add(b);
-        tape.add(c);
-        tape.add(d);
-        tape.add(e);
-        return tape.size;
+        reader.tape.add(a);
+        reader.tape.add(b);
+        reader.tape.add(c);
+        reader.tape.add(d);
+        reader.tape.add(e);
+        return reader.tape.size;
     }
 
     public int end(int n) {
-        if (n < 0 || n > tape.size) {
+        if (n < 0 || n > reader.tape.size) {
             return NONE;
         }
-        tape.size = n;
+        reader.tape.size = n;
         return n;
     }
 
     public int bridge() {
         reader.readAll(draft);
-        tape.size = 0;
+        reader.tape.size = 0;
         if (reader.faultKind != 0) {
             return FAULTY;
         }
@@ -657,7 +656,7 @@ public final class QuarrelBridge {
             case 4: return told.carts;
             case 5: return told.acts;
             case 6: return told.lines;
-            case 7: return tape.size;
+            case 7: return reader.tape.size;
             case 8: return slots.filled();
             default: return NONE;
         }
@@ -1073,15 +1072,11 @@ public final class QuarrelBridge {
 
         int faultKind;
         int faultPlace = NONE;
-        private final Tape tape;
+        final Tape tape = new Tape();
         private int token;
         private int start;
         private int stop;
         private int amount;
-
-        Reader(Tape tape) {
-            this.tape = tape;
-        }
 
         void readAll(Bridge into) {
             faultKind = 0;

@@ -108,6 +108,8 @@ public final class FaultTest {
         bad("Bridge", 1, 0);
         bad("bridges days 2", 1, 0);
         bad("bridg days 2", 1, 0);
+        bad("fridge days 2", 1, 0);
+        bad("bridgz days 2", 1, 0);
         bad("bridge day 2", 1, 7);
         bad("bridge 2", 1, 7);
         bad("bridge days feels", 1, 12);

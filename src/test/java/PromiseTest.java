@@ -246,6 +246,11 @@ public final class PromiseTest {
         is("often", y.often(0), 8);
         is("often 1", y.often(1), -2);
         is("often -1", y.often(-1), -2);
+        QuarrelBridge z = Texts.told("bridge days 2 feels 5 feels 5 cools 0 odds 0;deed by 0 costs 0 gives 2 gives 2;"
+                + "cart on 0 wide 7 from 0 due 9 pays 0;");
+        is("best of nothing", z.best(), 0);
+        is("ways of nothing", z.ways(), 4);
+        is("nothing is done first", z.plan(1), -1);
         y.rate(0, 1);
         is("best by another rate", y.best(), 0);
         is("ways by another rate", y.ways(), 1);
@@ -299,6 +304,13 @@ public final class PromiseTest {
         is("most 2", x.most(2), 15);
         is("most 3", x.most(3), -2);
         is("most -1", x.most(-1), -2);
+        QuarrelBridge y = Texts.told("bridge days 2 feels 60 feels 60 cools 0 odds 0;deed by 0 costs 5 takes 30 gives 30;");
+        is("hold 60 of 60", y.hold(60), 0);
+        is("widest 60", y.widest(), 60);
+        is("most 60", y.most(1), 60);
+        QuarrelBridge z = Texts.told("bridge days 2 feels 0 feels 60 cools 0 odds 0;");
+        is("widest 0", z.widest(), 0);
+        is("hold 1 of 0", z.hold(1), -1);
     }
 
     private static void abreast() {
@@ -335,6 +347,12 @@ public final class PromiseTest {
         is("queue by none", x.queue(), -1);
         is("queues by none", x.queues(0), -1);
         is("line by one DAY", x.line(), 11);
+        // 10, then 5: 6 must go ahead of the first 5, with 4.
+        QuarrelBridge z = Texts.told("bridge days 2 feels 10 feels 10 cools 5 odds 0;cart on 0 wide 5 from 0 due 9 pays 1;"
+                + "cart on 0 wide 6 from 0 due 9 pays 1;cart on 0 wide 4 from 0 due 9 pays 1;");
+        is("queue behind another first", z.queue(), 1);
+        int[] behind = {1, 0, 2};
+        for (int i = 0; i < 3; i++) is("queues " + i + " behind another first", z.queues(i), behind[i]);
         QuarrelBridge y = Texts.told("bridge days 1 feels 5 feels 5 cools 0 odds 0;");
         is("queue without CARTS", y.queue(), 0);
         is("queues without CARTS", y.queues(0), -1);
@@ -491,6 +509,14 @@ public final class PromiseTest {
         is("fair: all can not be", y.fair(0), 0);
         tell(y, 0, 1, 1, 0);
         is("leave: one that can be", y.leave(0), 1);
+        // Each alone for 4, both for 6.
+        QuarrelBridge z = Texts.told("bridge days 1 feels 5 feels 5 cools 0 odds 0;deed by 0 costs 4 gives 1 gives 1;"
+                + "deed by 1 costs 6 gives 7 gives 7;cart on 0 wide 6 from 0 due 0 pays 1;cart on 0 wide 6 from 0 due 0 pays 1;");
+        tell(z, 0, 1, 2, 4);
+        is("fair to both", z.fair(0), 1);
+        tell(z, 0, 1, 3, 4);
+        is("all leave together", z.leave(0), 3);
+        is("which is not fair", z.fair(0), 0);
     }
 
     private static void chances() {
