@@ -222,7 +222,12 @@ final class EdgeActs {
         Edges.is("no more acts", x.does(0, 0), -5);
         Edges.is("undo", x.undo(), 39);
         Edges.is("what was ahead of it", x.done(0), 0);
+        x.anew();
+        for (int act = 0; act < 40; act++) x.does(1, -1);
         Edges.is("IMAGE as it was", x.back(0), 0);
+        Edges.row("undo, act by act", act -> x.undo(), 39, 38, 37, 36);
+        Edges.row("what was ahead of them", x::done, 1, 0, 1);
+        Edges.is("again", x.back(0), 0);
         Edges.is("acts again", x.count(5), 40);
         Texts.feed(x, EdgeDays.MOST);
         x.bridge();

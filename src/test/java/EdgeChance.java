@@ -83,6 +83,9 @@ final class EdgeChance {
         QuarrelBridge other = Edges.on(still, Edges.deed(0, 2, 30, 30), Edges.deed(0, 0, -1, -1), Edges.deed(1, 0, -1, -1),
                 Edges.deed(1, 2, 30, 30), Edges.cart(1, 6, 0, 0, 9));
         Edges.is("DEED 3 of SIDE 1", other.rest(0), 4);
+        // Nothing: 2. DEED 2: 4, CART 0. DEED 3: 8, CART 0. Both: 10, both CARTS: 7 and 4 less 1.
+        Edges.is("DEEDS 2 and 3", Edges.on(Edges.bridge(1, 2, 3, 0, 0), Edges.deed(0, 2, -1, -2), Edges.deed(1, 2, -3, -2),
+                Edges.deed(0, 0, 2, 3), Edges.deed(1, 1, 6, 6), Edges.cart(0, 4, 0, 0, 7), Edges.cart(1, 6, 0, 0, 4)).rest(0), 34);
         // CART 0 takes all of 5; by both DEEDS, not by one, it is 35 wide, and all pass.
         QuarrelBridge both = Edges.on(still, Edges.deed(0, 1, 30, 0), Edges.deed(1, 1, 0, 30), Edges.cart(0, 5, 0, 0, 0),
                 Edges.cart(0, 1, 0, 0, 9), Edges.cart(1, 1, 0, 0, 9));
@@ -104,6 +107,11 @@ final class EdgeChance {
             Edges.is("SIDE 0 by " + one[0] + " " + one[1], x.has(0, (int) one[0], (int) one[1], 0), one[2]);
             Edges.is("SIDE 1 by " + one[0] + " " + one[1], x.has(1, (int) one[0], (int) one[1], 0), one[3]);
         }
+        x.has(0, -1, 1, 0);
+        Edges.row("nothing is done by it: WIDTH", x::width, 5, 5);
+        x.rests(1);
+        Edges.row("nothing is done by it: passes", x::passes, 0, 1);
+        Edges.is("acts", x.count(5), 0);
         Edges.is("the least", Edges.on(Edges.bridge(1, 0, 0, 0, 0), Edges.deed(0, 99, 0, 0)).has(0, 0, -1, 0), -99);
         Edges.is("the most", Edges.on(EdgeDays.MOST).has(0, -1, -1, 5), 5994);
         Edges.is("of the other SIDE", Edges.on(EdgeDays.MOST).has(1, -1, -1, 5), 0);
@@ -217,6 +225,10 @@ final class EdgeChance {
         Edges.is("by sure tempers", Edges.on(Edges.bridge(6, 60, 60, 0, 10)).when(56), -1);
         Edges.is("just so", Edges.on(Edges.bridge(6, 60, 60, 0, 10)).when(55), 0);
         Edges.is("seldom, but it can be", Edges.on(Edges.bridge(6, 60, 60, 0, 9)).when(60), 0);
+        QuarrelBridge z = Edges.on(Edges.bridge(6, 31, 31, 0, 9), Edges.deed(0, 0, 30, 30));
+        z.does(5, 0);
+        fraction(z, "only without any temper", 5, 60, 1, 1000000);
+        Edges.is("one in a million", z.when(60), 5);
         Edges.of(61, "-2: there is no such n, no BRIDGE.");
         Edges.none("when", x::when, -2, 61);
         Edges.none("when of none", new QuarrelBridge()::when, -2, 0);

@@ -147,6 +147,7 @@ final class EdgeDays {
         Edges.is("of one", Edges.on(BARE).narrow(), 0);
         QuarrelBridge y = Edges.on(Edges.bridge(6, 9, 9, 3, 0), Edges.deed(0, 0, 30, 30));
         Edges.is("0 from DAY 3 on", y.narrow(), 3);
+        Edges.is("DAY 1", Edges.on(Edges.bridge(2, 9, 9, 1, 0)).narrow(), 1);
         y.does(3, 0);
         Edges.is("3 on DAY 2", y.narrow(), 2);
         Edges.of(10, "-2: there is no BRIDGE.");
@@ -294,6 +295,9 @@ final class EdgeDays {
         Edges.is("as great again", x.peak(), 0);
         x.does(5, 1);
         Edges.is("the last", x.peak(), 5);
+        QuarrelBridge y = Edges.on(Edges.bridge(3, 9, 9, 0, 0), Edges.deed(0, 0, 1, 1));
+        y.does(1, 0);
+        Edges.is("DAY 1", y.peak(), 1);
         Edges.of(24, "-2: there is no BRIDGE.");
         Edges.is("peak", new QuarrelBridge().peak(), -2);
     }
@@ -305,6 +309,7 @@ final class EdgeDays {
         Edges.of(25, "By how much the greatest WIDTH of DAYS from which a CART comes to its due (0, if there are none)"
                 + " is less than it is wide (0: not less).");
         Edges.row("lacks", x::lacks, 1, 0, 0, 7, 40, 20);
+        Edges.row("of six DAYS, due beyond the last", Edges.on(Edges.bridge(6, 20, 20, 1, 0), Edges.cart(0, 16, 5, 9, 1))::lacks, 1);
         QuarrelBridge y = Edges.on(Edges.bridge(2, 5, 5, 5, 0), Edges.deed(0, 0, 30, 30), Edges.cart(0, 9, 0, 0, 1),
                 Edges.cart(0, 9, 0, 1, 1));
         y.does(1, 0);
@@ -337,6 +342,9 @@ final class EdgeDays {
         QuarrelBridge y = Edges.on(Edges.bridge(6, 5, 5, 0, 0), Edges.cart(0, 6, 0, 9, 1), Edges.cart(0, 5, 3, 0, 1),
                 Edges.cart(0, 5, 3, 0, 1), Edges.cart(0, 1, 6, 9, 1));
         Edges.is("of those that pass, from when they come", y.delay(), 1);
+        QuarrelBridge z = Edges.on(Edges.bridge(6, 0, 5, 0, 0), Edges.deed(0, 0, 5, 0), Edges.cart(0, 5, 0, 9, 1));
+        z.does(5, 0);
+        Edges.is("CART 0 waits for five", z.delay(), 5);
         Edges.is("none", Edges.on(MOST).delay(), 0);
         Edges.is("without CARTS", Edges.on(BARE).delay(), 0);
         Edges.of(28, "-2 likewise.");
@@ -374,6 +382,7 @@ final class EdgeDays {
         QuarrelBridge x = Edges.on(Edges.bridge(2, 50, 50, 9, 0), Edges.deed(0, 0, 9, 9), Edges.deed(0, 0, 10, 10),
                 Edges.deed(1, 0, 30, 30), Edges.deed(1, 0, -30, -30));
         Edges.row("60 at most: the first of two", x::kind, 1, 2);
+        Edges.is("number 0", Edges.on(EdgeDays.BARE, Edges.deed(0, 0, 1, 0)).kind(0), 0);
         x.does(0, 0);
         Edges.is("one more by another", x.kind(0), 1);
         x.does(0, 3);

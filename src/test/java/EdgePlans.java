@@ -47,6 +47,13 @@ final class EdgePlans {
         Edges.is("WIDTH, acts aside", x.most(5), 30);
         Edges.is("CHEAP, acts aside", x.cheap(1), 6);
         Edges.is("HOLD, acts aside", x.hold(0), 0);
+        QuarrelBridge z = Edges.on(Edges.bridge(2, 4, 4, 0, 0), Edges.deed(0, 1, 5, 5), Edges.deed(1, 50, -30, -30), Edges.cart(0, 9, 0, 1, 100));
+        for (int day = 0; day < 2; day++) z.does(day, 1);
+        Edges.is("acts first, and aside", z.best(), 99);
+        Edges.is("ways, acts aside", z.ways(), 2);
+        Edges.row("plan, acts aside", z::plan, -1, 0);
+        Edges.is("often, acts aside", z.often(0), 4);
+        Edges.row("hold, acts aside", z::hold, 0, 0, 0, 0, 0, 1);
         QuarrelBridge y = Edges.on(EdgeDays.BARE);
         Edges.is("without DEEDS", y.ways(), 1);
         Edges.is("none", y.plan(0), -1);
@@ -83,6 +90,14 @@ final class EdgePlans {
         // 9 on DAY 0 and 10 on DAY 1: by DEED 0 twice, 0 and 1, 1 and none (9, then 10).
         Edges.is("97", y.best(), 97);
         Edges.row("by DEED 1 alone", y::plan, 1, -1);
+        // CART 1 never comes: what it would pay is near BEST, and no PLAN brings it.
+        QuarrelBridge z = Edges.on(Edges.bridge(1, 5, 5, 0, 0), Edges.deed(0, 1, 1, 1), Edges.cart(0, 6, 0, 0, 9), Edges.cart(0, 1, 9, 9, 7));
+        for (int pays = 6; pays <= 10; pays++) {
+            z.rate(1, pays);
+            Edges.is("BEST", z.best(), 8);
+            Edges.is("its one way", z.ways(), 1);
+            Edges.row("its PLAN", z::plan, 0);
+        }
         Edges.of(22, "NONE: none");
         Edges.row("nothing for nothing", Edges.on(EVEN)::plan, -1);
         Edges.row("of 15,625", Edges.on(ALIKE)::plan, -1, -1, -1, -1, -1, -1);
@@ -200,6 +215,7 @@ final class EdgePlans {
                 Edges.deed(1, 3, 9, 9), Edges.deed(1, 4, 9, 9), Edges.cart(0, 9, 0, 2, 0), Edges.cart(0, 10, 0, 1, 0),
                 Edges.cart(0, 1, 3, 9, 0));
         Edges.row("CART 0", day -> x.cheaply(1, day), -1, -1, 1);
+        Edges.row("of two PLANS", set -> Edges.on(TWO).cheaply(set, 0), -1, -1, 0, 0);
         // CART 1 by DAY 1, as CART 0 takes 9 of 14.
         Edges.row("both: DEED 2 on DAY 0, then the other", day -> x.cheaply(3, day), 2, -1, -1);
         Edges.row("CART 1 alone, and CART 0 is ahead of it", day -> x.cheaply(2, day), 2, -1, -1);
@@ -364,6 +380,7 @@ final class EdgePlans {
                 Edges.cart(0, 37, 0, 0, 1), Edges.cart(0, 38, 0, 0, 1), Edges.cart(0, 39, 0, 0, 1), Edges.cart(0, 40, 0, 0, 1));
         Edges.row("the last of 720", y::queues, 5, 4, 3, 2, 1, 0);
         Edges.is("by the last DAY", y.queue(), 5);
+        everyOrder(new int[5], 0);
         Edges.of(46, "NONE: there is none such");
         Edges.none("queues", x::queues, -1, 4);
         Edges.row("without CARTS", Edges.on(EdgeDays.BARE)::queues, -1, -1);
@@ -371,6 +388,23 @@ final class EdgePlans {
         Edges.of(46, "-2 likewise.");
         Edges.none("queues of none", new QuarrelBridge()::queues, -2, 0);
         Edges.is("queues of none", new QuarrelBridge().queues(0), -2);
+    }
+
+    /** For each order a BRIDGE by which it is the only one: the widest CART first, as WIDTH is one less a DAY. */
+    private static void everyOrder(int[] order, int size) {
+        if (size < order.length) {
+            for (int cart = 0; cart < order.length; cart++) {
+                boolean used = false;
+                for (int i = 0; i < size; i++) used |= order[i] == cart;
+                order[size] = cart;
+                if (!used) everyOrder(order, size + 1);
+            }
+            return;
+        }
+        String[] carts = new String[order.length];
+        for (int i = 0; i < order.length; i++) carts[order[i]] = Edges.cart(0, 40 - i, 0, 9, 1);
+        QuarrelBridge x = Edges.on(Edges.bridge(6, 40, 60, 1, 0), String.join("", carts));
+        for (int i = 0; i < order.length; i++) Edges.is("the one order that is left, " + i, x.queues(i), order[i]);
     }
 
     private static void line() {

@@ -16,6 +16,7 @@ final class EdgeText {
         feedFull();
         ends();
         bridgeOfTape();
+        bridgeInPlace();
         bridgeOfFullTape();
         bridgeRefused();
         faults();
@@ -114,6 +115,14 @@ final class EdgeText {
         Edges.is("bytes", x.count(7), 13);
         x.bridge();
         Edges.is("what is cut is not read", x.fault(0) * 100 + x.fault(1), 113);
+        Texts.feed(x, "bridge days");
+        Edges.is("a word is cut", x.end(10), 10);
+        x.bridge();
+        Edges.is("it is another one", x.fault(1), 7);
+        Texts.feed(x, "bridges");
+        x.end(6);
+        x.bridge();
+        Edges.is("what is left is the word", x.fault(1), 6);
         Texts.feed(x, "bridge  days");
         Edges.is("cut", x.end(7), 7);
         Texts.feed(x, ";");
@@ -162,6 +171,43 @@ final class EdgeText {
         Texts.feed(x, " \n\n ");
         Edges.is("of blanks", x.bridge(), 0);
         Edges.is("none", x.count(0), 0);
+    }
+
+    /** All is asked of a great BRIDGE first, then of a small one: nothing of the first is left. */
+    private static void bridgeInPlace() {
+        Edges.of(4, "is the BRIDGE (in place of another)");
+        QuarrelBridge x = Edges.on(EdgeDays.MOST);
+        for (int round = 0; round < 2; round++) {
+            Edges.all("of the great one", 5994, x.best(), x.pays(), x.line(), x.load(60), x.toll(0));
+            Edges.row("most", x::most, 60, 60, 60, 60, 60, 60);
+            Edges.row("soonest", x::soonest, 0, 0, 0, 0, 0, 0);
+            Edges.all("of the great one", 15625, x.often(0), x.often(5));
+            Edges.all("of the great one", 0, x.hold(0), x.hold(60), x.cheap(63), x.queue());
+            Edges.is("sets", x.sets(), 64);
+            Texts.feed(x, Edges.bridge(2, 3, 3, 1, 0) + Edges.deed(0, 4, -1, -1) + Edges.cart(0, 2, 1, 9, 7) + Edges.cart(0, 3, 1, 9, 9)
+                    + Edges.cart(0, 5, 0, 9, 9));
+            Edges.is("bridge", x.bridge(), 5);
+            // 3, 2; or 2, 1 or 3, 1: CART 0 passes on DAY 1 if nothing is done.
+            Edges.all("of the small one", 7, x.best(), x.pays(), x.line(), x.toll(1));
+            Edges.row("most", x::most, 3, 2, -2);
+            Edges.row("soonest", x::soonest, 1, -1, -1, -2);
+            Edges.row("often", x::often, 1, 0, 0, -2);
+            Edges.row("hold", x::hold, 0, 0, 0, -1);
+            Edges.row("cheap", x::cheap, 0, 0, -1, -1, -1, -1, -1, -1, -2);
+            Edges.row("lacks", x::lacks, 0, 1, 2, -2);
+            Edges.row("queues", x::queues, -1, -1, -1);
+            Edges.is("sets", x.sets(), 2);
+            Edges.is("ways", x.ways(), 1);
+            Edges.is("widest", x.widest(), 2);
+            Edges.is("queue", x.queue(), -1);
+            Texts.feed(x, EdgeDays.MOST);
+            Edges.is("bridge", x.bridge(), 11);
+        }
+        QuarrelBridge y = Edges.on(EdgeDays.BARE);
+        Edges.is("the one PLAN keeps no CART", y.ways(), 1);
+        Texts.feed(y, EdgeDays.BARE + Edges.cart(0, 1, 0, 0, 0));
+        Edges.is("bridge", y.bridge(), 2);
+        Edges.is("the one PLAN keeps a CART for nothing", y.ways(), 1);
     }
 
     private static void bridgeOfFullTape() {
@@ -270,6 +316,7 @@ final class EdgeText {
             if (word) {
                 bad(until + parts[i] + "s" + behind, 1, until.length());
                 bad(until + parts[i].substring(1) + behind, 1, until.length());
+                bad(until + "z" + parts[i].substring(1) + behind, 1, until.length());
                 bad(until + parts[i].substring(0, parts[i].length() - 1) + "z" + behind, 1, until.length());
                 bad(until + parts[i].toUpperCase() + behind, 1, until.length());
             }
