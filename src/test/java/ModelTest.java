@@ -17,7 +17,7 @@ public final class ModelTest {
     }
 
     public static void main(String[] args) {
-        int runs = args.length > 0 ? Integer.parseInt(args[0]) : 500;
+        int runs = args.length > 0 ? Integer.parseInt(args[0]) : 700;
         long seed = args.length > 1 ? Long.parseLong(args[1]) : 20261118L;
         Due due = new Due("ModelTest");
         ModelTest test = new ModelTest(new Random(seed), due);
@@ -36,7 +36,8 @@ public final class ModelTest {
         if (random.nextInt(8) == 0) {
             someCalls(20);
         }
-        for (int round = 0; round < 4 && calls < 440; round++) {
+        // A round has some 180 calls, and what an object answers behind its 512th is free.
+        for (int round = 0; round < 4 && calls < 330; round++) {
             tell();
             askAll();
             someCalls(CALLS);
